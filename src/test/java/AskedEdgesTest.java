@@ -144,6 +144,8 @@ public final class AskedEdgesTest {
         Script.run(c, "least pay by one, together", "choir 'singer 0 9 5;singer 0 3 5;singer 0 4 5;singer 0 4 5;note 0 5;note 0 5;' = 4",
                 "cast = 6");
         Script.run(c, "alike: least bits", "choir 'singer 0 3 5;singer 0 3 5;singer 0 3 5;note 0 5;note 0 5;' = 3", "cast = 3");
+        Script.run(c, "of seven the cheapest", "choir '" + times(6, "singer 0 2 9;") + "singer 0 1 9;note 0 9;' = 7", "cast = 64");
+        Script.run(c, "of seven alike", "choir '" + times(7, "singer 0 1 9;") + "note 0 9;note 0 9;' = 7", "cast = 3");
         Script.run(c, "no pay at all", "choir 'singer 1 0 9;singer 0 0 9;note 0 1;' = 2", "cast = 2");
     }
 

@@ -330,6 +330,16 @@ public final class TextEdgesTest {
                 faulty("law", "1" + sign, 1, 1);
             }
         }
+        // The first and the last of small letters belong to the word; so do the first and the last digit to a number.
+        for (char letter : new char[] {'a', 'z'}) {
+            faulty("choir", "rest" + letter + " 1;", 1, 0);
+            faulty("work", "hymn" + letter + ";", 1, 0);
+            faulty("law", "length" + letter, 1, 0);
+            faulty("choir", letter + "rest 1;", 1, 0);
+        }
+        faulty("choir", "rest 40;", 2, 5);
+        faulty("choir", "rest 49;", 2, 5);
+        faulty("choir", "rest 09 9;", 1, 8);
         faulty("choir", "Rest 1;", 1, 0);
         faulty("choir", "reSt 1;", 1, 0);
         faulty("choir", "resT 1;", 1, 0);

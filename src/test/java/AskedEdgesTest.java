@@ -178,7 +178,11 @@ public final class AskedEdgesTest {
                 "benched 1 = 1", "benched 2 = -1");
         Script.run(c, "seven, at most", "choir 'singer 0 1 1;singer 1 1 1;singer 0 1 1;singer 1 1 1;singer 0 1 1;singer 1 1 1;"
                 + "singer 0 1 1;" + times(10, "note 0 1;note 1 1;") + "' = 7", "bench = 114", "benched 0 = 0", "benched 1 = 1",
-                "benched 2 = 2", "benched 6 = 6", "benched 7 = -1");
+                "benched 2 = 2", "benched 6 = 6", "benched 7 = -1",
+                // A smaller choir behind it has nothing of its bench.
+                "choir 'singer 0 1 1;singer 0 1 1;singer 1 1 1;note 0 1;note 1 1;' = 3", "bench = 2", "benched 1 = 2",
+                "benched 3 = -1", "choir 'singer 0 1 1;singer 1 1 1;note 0 1;note 1 1;' = 2", "bench = 1", "benched 2 = -1",
+                "choir 'singer 0 1 1;note 0 1;note 1 1;' = 1", "bench = 0", "choir '' = 0", "bench = 0");
         Script.run(c, "place by place", "choir 'singer 0 1 1;singer 0 1 1;singer 1 1 1;note 0 1;note 1 1;' = 3", "bench = 2",
                 "benched 0 = 0", "benched 1 = 2", "benched 2 = 1", "benched 3 = -1");
         Script.run(c, "the last one first", "choir 'singer 1 1 1;singer 2 1 1;singer 0 1 1;note 1 1;note 0 1;note 2 1;' = 3",

@@ -501,6 +501,15 @@ public final class TextEdgesTest {
         fine("work", times(6, "again 1[") + times(6, "];") + times(6, "again 1[") + "hymn;" + times(6, "];"), 1);
         fine("work", times(5, "again 1[") + "again 1[hymn;];again 1[hymn;];" + times(5, "];"), 2);
         fine("work", times(8, "again 1[hymn;];"), 8);
+        // "the first from the left": the 7th stands ahead of what is wrong behind its word.
+        faulty("law", times(6, "(") + "least", 3, 6);
+        faulty("law", times(6, "(") + "most(1", 3, 6);
+        faulty("work", times(6, "again 1[") + "again", 3, 48);
+        faulty("work", times(6, "again 1[") + "again;", 3, 48);
+        faulty("work", times(6, "again 1[") + " again 61[", 3, 49);
+        // A longer word is another one, and can't stand there however many are open.
+        faulty("law", times(6, "(") + "leasts[1,2]", 1, 6);
+        faulty("work", times(6, "again 1[") + "agains 1[", 1, 48);
     }
 
     // "E, at the end nothing more"; "E: T { + or - T }. T: U { * or / or % U }"
